@@ -181,6 +181,7 @@ public final class PromisesTest {
             due.is("closed(" + m + ")", x.closed(m), want[m - 1]);
         }
         due.is("closed(20) of 20", times(20, 129).closed(20), 1);
+        due.is("closed(20) of 20, all things", times(20, 255).closed(20), 1);
         due.is("closed(1) of empty baskets", times(3, 0).closed(1), 0);
         due.is("closed(1), meet of two baskets", with(3, 6).closed(1), 3);
         due.is("closed(2), meet of two baskets", with(3, 6).closed(2), 1);
