@@ -3,10 +3,6 @@ public final class PromisesTest {
     private static final int BAD = -1;
     private static final int FULL = -2;
     private static final int NONE = -3;
-    private static final int LOW = Integer.MIN_VALUE;
-    private static final int HIGH = Integer.MAX_VALUE;
-    private static final int[] NO_SETS = {LOW, -256, -255, -1, 256, 257, 511, 65536, HIGH};
-    private static final int[] NO_LIMITS = {LOW, -20, -1, 0, 21, 22, 257, HIGH};
 
     private static final Due due = new Due();
 
@@ -31,25 +27,9 @@ public final class PromisesTest {
         due.end();
     }
 
-    private static FrequentSets with(int... sets) {
-        FrequentSets x = new FrequentSets();
-        for (int set : sets) {
-            x.add(set);
-        }
-        return x;
-    }
-
-    private static FrequentSets times(int n, int set) {
-        FrequentSets x = new FrequentSets();
-        for (int i = 0; i < n; i++) {
-            x.add(set);
-        }
-        return x;
-    }
-
     /** Bread 1, milk 2, eggs 4: counts 1:5, 2:3, 3:3, 4:2, 5:2, 6:1, 7:1. */
     private static FrequentSets shop() {
-        return with(1, 3, 3, 5, 7);
+        return Inputs.with(1, 3, 3, 5, 7);
     }
 
     private static void newObject() {
@@ -71,8 +51,8 @@ public final class PromisesTest {
     }
 
     private static void objectsAreApart() {
-        FrequentSets x = with(1, 2);
-        FrequentSets y = with(4);
+        FrequentSets x = Inputs.with(1, 2);
+        FrequentSets y = Inputs.with(4);
         due.is("apart: x.count(4)", x.count(4), 0);
         due.is("apart: y.count(0)", y.count(0), 1);
         due.is("apart: x.drop()", x.drop(), 1);
@@ -84,7 +64,7 @@ public final class PromisesTest {
         due.is("add(0)", x.add(0), 1);
         due.is("add(255)", x.add(255), 2);
         due.is("add(255) again", x.add(255), 3);
-        for (int bad : NO_SETS) {
+        for (int bad : Inputs.NO_SETS) {
             due.is("add(" + bad + ")", x.add(bad), BAD);
         }
         for (int n = 4; n <= 20; n++) {
@@ -92,7 +72,7 @@ public final class PromisesTest {
         }
         due.is("full: add(1)", x.add(1), FULL);
         due.is("full: add(0)", x.add(0), FULL);
-        for (int bad : NO_SETS) {
+        for (int bad : Inputs.NO_SETS) {
             due.is("full: add(" + bad + ")", x.add(bad), FULL);
         }
         due.is("full: count(0)", x.count(0), 20);
@@ -102,7 +82,7 @@ public final class PromisesTest {
     }
 
     private static void drop() {
-        FrequentSets x = with(1, 2, 4);
+        FrequentSets x = Inputs.with(1, 2, 4);
         due.is("drop() of 3", x.drop(), 2);
         due.is("drop() of 2", x.drop(), 1);
         due.is("drop() of 1", x.drop(), 0);
@@ -114,7 +94,7 @@ public final class PromisesTest {
     }
 
     private static void dropTakesTheOldest() {
-        FrequentSets x = with(1, 2, 4, 2);
+        FrequentSets x = Inputs.with(1, 2, 4, 2);
         x.drop();
         due.is("oldest: count(1)", x.count(1), 0);
         due.is("oldest: count(2)", x.count(2), 2);
@@ -150,10 +130,10 @@ public final class PromisesTest {
             due.is("count(" + set + ")", x.count(set), want[set]);
         }
         due.is("count(255)", x.count(255), 0);
-        due.is("count(255) of 255", with(255, 254, 127).count(255), 1);
-        due.is("count(128)", with(255, 254, 127).count(128), 2);
-        due.is("count(0) of empty baskets", with(0, 0).count(0), 2);
-        for (int bad : NO_SETS) {
+        due.is("count(255) of 255", Inputs.with(255, 254, 127).count(255), 1);
+        due.is("count(128)", Inputs.with(255, 254, 127).count(128), 2);
+        due.is("count(0) of empty baskets", Inputs.with(0, 0).count(0), 2);
+        for (int bad : Inputs.NO_SETS) {
             due.is("count(" + bad + ")", x.count(bad), BAD);
         }
     }
@@ -165,10 +145,10 @@ public final class PromisesTest {
             due.is("frequent(" + m + ")", x.frequent(m), want[m - 1]);
         }
         due.is("frequent(20)", x.frequent(20), 0);
-        due.is("frequent(20) of 20", times(20, 255).frequent(20), 255);
-        due.is("frequent(20) of 19", times(19, 255).frequent(20), 0);
-        due.is("frequent(1) of empty baskets", times(20, 0).frequent(1), 0);
-        for (int bad : NO_LIMITS) {
+        due.is("frequent(20) of 20", Inputs.times(20, 255).frequent(20), 255);
+        due.is("frequent(20) of 19", Inputs.times(19, 255).frequent(20), 0);
+        due.is("frequent(1) of empty baskets", Inputs.times(20, 0).frequent(1), 0);
+        for (int bad : Inputs.NO_LIMITS) {
             due.is("frequent(" + bad + ")", x.frequent(bad), BAD);
         }
     }
@@ -180,12 +160,12 @@ public final class PromisesTest {
         for (int m = 1; m <= want.length; m++) {
             due.is("closed(" + m + ")", x.closed(m), want[m - 1]);
         }
-        due.is("closed(20) of 20", times(20, 129).closed(20), 1);
-        due.is("closed(20) of 20, all things", times(20, 255).closed(20), 1);
-        due.is("closed(1) of empty baskets", times(3, 0).closed(1), 0);
-        due.is("closed(1), meet of two baskets", with(3, 6).closed(1), 3);
-        due.is("closed(2), meet of two baskets", with(3, 6).closed(2), 1);
-        for (int bad : NO_LIMITS) {
+        due.is("closed(20) of 20", Inputs.times(20, 129).closed(20), 1);
+        due.is("closed(20) of 20, all things", Inputs.times(20, 255).closed(20), 1);
+        due.is("closed(1) of empty baskets", Inputs.times(3, 0).closed(1), 0);
+        due.is("closed(1), meet of two baskets", Inputs.with(3, 6).closed(1), 3);
+        due.is("closed(2), meet of two baskets", Inputs.with(3, 6).closed(2), 1);
+        for (int bad : Inputs.NO_LIMITS) {
             due.is("closed(" + bad + ")", x.closed(bad), BAD);
         }
     }
@@ -197,11 +177,11 @@ public final class PromisesTest {
         for (int m = 1; m <= want.length; m++) {
             due.is("largest(" + m + ")", x.largest(m), want[m - 1]);
         }
-        due.is("largest(1), single things", with(1, 2, 4, 8, 16, 32, 64, 128).largest(1), 8);
-        due.is("largest(1) of 255", with(255).largest(1), 1);
-        due.is("largest(20) of 20", times(20, 255).largest(20), 1);
-        due.is("largest(1) of empty baskets", times(3, 0).largest(1), 0);
-        for (int bad : NO_LIMITS) {
+        due.is("largest(1), single things", Inputs.with(1, 2, 4, 8, 16, 32, 64, 128).largest(1), 8);
+        due.is("largest(1) of 255", Inputs.with(255).largest(1), 1);
+        due.is("largest(20) of 20", Inputs.times(20, 255).largest(20), 1);
+        due.is("largest(1) of empty baskets", Inputs.times(3, 0).largest(1), 0);
+        for (int bad : Inputs.NO_LIMITS) {
             due.is("largest(" + bad + ")", x.largest(bad), BAD);
         }
     }
@@ -216,12 +196,12 @@ public final class PromisesTest {
         due.is("closedSet(2, 3)", x.closedSet(2, 3), NONE);
         due.is("closedSet(3, 1)", x.closedSet(3, 1), 3);
         due.is("closedSet(6, 0)", x.closedSet(6, 0), NONE);
-        due.is("closedSet(20, 0) of 20", times(20, 255).closedSet(20, 0), 255);
-        due.is("order is not that of the baskets", with(128, 1).closedSet(1, 0), 1);
-        for (int k : new int[] {LOW, -1, 255, 256, HIGH}) {
+        due.is("closedSet(20, 0) of 20", Inputs.times(20, 255).closedSet(20, 0), 255);
+        due.is("order is not that of the baskets", Inputs.with(128, 1).closedSet(1, 0), 1);
+        for (int k : new int[] {Inputs.LOW, -1, 255, 256, Inputs.HIGH}) {
             due.is("closedSet(1, " + k + ")", x.closedSet(1, k), NONE);
         }
-        for (int bad : NO_LIMITS) {
+        for (int bad : Inputs.NO_LIMITS) {
             due.is("closedSet(" + bad + ", 0)", x.closedSet(bad, 0), BAD);
             due.is("closedSet(" + bad + ", -1)", x.closedSet(bad, -1), BAD);
             due.is("closedSet(" + bad + ", 99)", x.closedSet(bad, 99), BAD);
@@ -235,11 +215,11 @@ public final class PromisesTest {
             due.is("closure(" + set + ")", x.closure(set), want[set]);
         }
         due.is("closure(255)", x.closure(255), NONE);
-        due.is("closure(255) of 255", with(255).closure(255), 255);
-        due.is("closure(0) of 255", with(255).closure(0), 255);
-        due.is("closure(0) of an empty basket", with(0, 255).closure(0), 0);
-        due.is("closure(128)", with(0, 192, 160, 64).closure(128), 128);
-        for (int bad : NO_SETS) {
+        due.is("closure(255) of 255", Inputs.with(255).closure(255), 255);
+        due.is("closure(0) of 255", Inputs.with(255).closure(0), 255);
+        due.is("closure(0) of an empty basket", Inputs.with(0, 255).closure(0), 0);
+        due.is("closure(128)", Inputs.with(0, 192, 160, 64).closure(128), 128);
+        for (int bad : Inputs.NO_SETS) {
             due.is("closure(" + bad + ")", x.closure(bad), BAD);
             due.is("no baskets: closure(" + bad + ")", new FrequentSets().closure(bad), BAD);
         }
@@ -252,10 +232,10 @@ public final class PromisesTest {
             due.is("widest(" + m + ")", x.widest(m), want[m - 1]);
         }
         // The widest set is not the one with the greatest number.
-        due.is("widest(1), wide set of a small number", with(15, 128).widest(1), 4);
-        due.is("widest(20) of 20", times(20, 255).widest(20), 8);
-        due.is("widest(1) of empty baskets", times(3, 0).widest(1), 0);
-        for (int bad : NO_LIMITS) {
+        due.is("widest(1), wide set of a small number", Inputs.with(15, 128).widest(1), 4);
+        due.is("widest(20) of 20", Inputs.times(20, 255).widest(20), 8);
+        due.is("widest(1) of empty baskets", Inputs.times(3, 0).widest(1), 0);
+        for (int bad : Inputs.NO_LIMITS) {
             due.is("widest(" + bad + ")", x.widest(bad), BAD);
         }
     }
@@ -273,13 +253,13 @@ public final class PromisesTest {
         due.is("rules(2, 60)", x.rules(2, 60), 3);
         due.is("rules(3, 100)", x.rules(3, 100), 1);
         due.is("rules(4, 0)", x.rules(4, 0), 0);
-        due.is("rules(20, 100) of 20", times(20, 255).rules(20, 100), 6050);
-        due.is("rules(1, 0), single things", with(1, 2, 4, 128).rules(1, 0), 0);
-        for (int bad : NO_LIMITS) {
+        due.is("rules(20, 100) of 20", Inputs.times(20, 255).rules(20, 100), 6050);
+        due.is("rules(1, 0), single things", Inputs.with(1, 2, 4, 128).rules(1, 0), 0);
+        for (int bad : Inputs.NO_LIMITS) {
             due.is("rules(" + bad + ", 50)", x.rules(bad, 50), BAD);
             due.is("rules(" + bad + ", 101)", x.rules(bad, 101), BAD);
         }
-        for (int bad : new int[] {LOW, -100, -1, 101, 102, HIGH}) {
+        for (int bad : Inputs.NO_PERCENTS) {
             due.is("rules(1, " + bad + ")", x.rules(1, bad), BAD);
             due.is("no baskets: rules(1, " + bad + ")", new FrequentSets().rules(1, bad), BAD);
         }
@@ -289,7 +269,7 @@ public final class PromisesTest {
     private static void rulesAtTheVeryPercent() {
         for (int d = 1; d <= 20; d++) {
             for (int n = 1; n <= d; n++) {
-                FrequentSets x = times(n, 3);
+                FrequentSets x = Inputs.times(n, 3);
                 for (int i = n; i < d; i++) {
                     x.add(1);
                 }
@@ -312,17 +292,17 @@ public final class PromisesTest {
         due.is("companion(7), nothing else was bought", x.companion(7), 3);
         due.is("companion(8)", x.companion(8), NONE);
         due.is("companion(255)", x.companion(255), NONE);
-        due.is("companion(255) of 255", with(255).companion(255), NONE);
-        due.is("companion(127) of 127", with(127).companion(127), 7);
-        due.is("companion(254) of 254", with(254).companion(254), 0);
-        due.is("companion(1), all alone", with(1, 2).companion(1), 1);
-        due.is("companion(4), all alone", with(4).companion(4), 0);
-        due.is("companion(1), two as strong", with(65, 33).companion(1), 5);
-        due.is("companion(1), the last is strongest", with(129, 131).companion(1), 7);
+        due.is("companion(255) of 255", Inputs.with(255).companion(255), NONE);
+        due.is("companion(127) of 127", Inputs.with(127).companion(127), 7);
+        due.is("companion(254) of 254", Inputs.with(254).companion(254), 0);
+        due.is("companion(1), all alone", Inputs.with(1, 2).companion(1), 1);
+        due.is("companion(4), all alone", Inputs.with(4).companion(4), 0);
+        due.is("companion(1), two as strong", Inputs.with(65, 33).companion(1), 5);
+        due.is("companion(1), the last is strongest", Inputs.with(129, 131).companion(1), 7);
         due.is("companion(0)", x.companion(0), BAD);
         due.is("no baskets: companion(0)", new FrequentSets().companion(0), BAD);
         due.is("no baskets: companion(255)", new FrequentSets().companion(255), NONE);
-        for (int bad : NO_SETS) {
+        for (int bad : Inputs.NO_SETS) {
             due.is("companion(" + bad + ")", x.companion(bad), BAD);
         }
     }
@@ -338,7 +318,7 @@ public final class PromisesTest {
         refuse(x);
         looksLikeShop(x);
 
-        FrequentSets full = times(20, 6);
+        FrequentSets full = Inputs.times(20, 6);
         due.is("refused: add(9) to 20", full.add(9), FULL);
         refuse(full);
         due.is("refused: count(0) of 20", full.count(0), 20);
@@ -349,13 +329,13 @@ public final class PromisesTest {
     }
 
     private static void refuse(FrequentSets x) {
-        for (int bad : NO_SETS) {
+        for (int bad : Inputs.NO_SETS) {
             x.add(bad);
             x.count(bad);
             x.closure(bad);
             x.companion(bad);
         }
-        for (int bad : NO_LIMITS) {
+        for (int bad : Inputs.NO_LIMITS) {
             x.frequent(bad);
             x.closed(bad);
             x.largest(bad);
