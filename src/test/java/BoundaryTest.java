@@ -114,6 +114,7 @@ public final class BoundaryTest {
             is("count(" + thing + ") of it", alone.count(thing), 1);
             is("count(" + (255 - thing) + ") of " + thing, alone.count(255 - thing), 0);
             is("closedSet(1, 0) of " + thing, alone.closedSet(1, 0), thing);
+            is("widest(1) of " + thing, alone.widest(1), 1);
             FrequentSets all = Inputs.with(255);
             is("companion of all but thing " + t, all.companion(255 - thing), t);
         }
@@ -130,6 +131,7 @@ public final class BoundaryTest {
         is("closure(255)", x.closure(255), 255);
         is("companion(1)", x.companion(1), 1);
         is("companion(254)", x.companion(254), 0);
+        is("frequent(1)", x.frequent(1), 255);
     }
 
     private static void upToTwentyBaskets() {
@@ -525,6 +527,10 @@ public final class BoundaryTest {
         is("rules(1, 95): 1 to 2 has 19/20", most.rules(1, 95), 2);
         is("rules(1, 96): 1 to 2 has 19/20", most.rules(1, 96), 1);
         is("rules(1, 100): 1 to 2 has 19/20", most.rules(1, 100), 1);
+        FrequentSets uneven = Inputs.times(13, 3);
+        uneven.add(1);
+        is("rules(1, 92): 1 to 2 has 13/14, more than 92 percent", uneven.rules(1, 92), 2);
+        is("rules(1, 93): 1 to 2 has 13/14, less than 93 percent", uneven.rules(1, 93), 1);
         is("rules(1, 100): both have 20/20", Inputs.times(20, 3).rules(1, 100), 2);
         is("rules(1, 0)", most.rules(1, 0), 2);
     }
