@@ -219,7 +219,7 @@ public final class FrequentSets {
     private int rulesWithin(int both, int bothCount, int percent) {
         int found = 0;
         for (int first = 1; first < both; first++) {
-            // Multiplied out, as a division would round.
+            // Multiplied out, so that nothing is rounded and there is no divisor to look at.
             if (hasAll(both, first) && bothCount * 100 >= percent * countOf(first)) {
                 found++;
             }
