@@ -23,7 +23,8 @@ import java.util.Set;
 
 /**
  * Rule 8: does a loop have a counter against a bound in its own lines? A counter is stepped there, one way only and
- * towards the bound, and is not made anew in the body. Whether a step stands behind a condition is not looked at.
+ * towards the bound, and is not made anew in the body. Whether a step stands behind a condition is not looked at, and
+ * a loop over all of an array, which shows no counter, does not come here.
  */
 final class Loop extends TreeScanner<Void, Void> {
     private enum Step { UP, DOWN, ELSE }

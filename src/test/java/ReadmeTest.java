@@ -39,7 +39,8 @@ public final class ReadmeTest {
         Object[] values = new Object[words.length];
         for (int i = 0; i < words.length; i++) {
             types[i] = int.class;
-            values[i] = words[i].startsWith("0b") ? Integer.parseInt(words[i].substring(2), 2) : Integer.parseInt(words[i]);
+            boolean bits = words[i].startsWith("0b");
+            values[i] = bits ? Integer.parseInt(words[i].substring(2), 2) : Integer.parseInt(words[i]);
         }
         return (int) FrequentSets.class.getMethod(name, types).invoke(x, values);
     }

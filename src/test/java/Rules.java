@@ -50,7 +50,8 @@ import javax.tools.ToolProvider;
 /**
  * Reads a source text against LANGUAGE.md and tells what breaks a rule. What the rules allow is let through; what
  * cannot be seen in the text is not looked for here: rule 7 has a test of its own, AnyCallTest, and so have the
- * names of the public face, FaceTest.
+ * names of the public face, FaceTest. "Some sixty" lines and "some forty" fields are read as 60 and 40, and a call
+ * "six deep" has the method called from outside as its first.
  */
 final class Rules extends TreePathScanner<Void, Void> {
     /** The number under which a text stands that is no Java at all. */
